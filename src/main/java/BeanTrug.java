@@ -277,8 +277,9 @@ public final class BeanTrug {
         if (!scene.state.isIn(sorrow)) {
             return NONE;
         }
+        int most = scene.told.dusk - scene.state.minute - scene.state.time[sorrow];
         // By a rule that asks the minute a longer wait may serve where a shorter fails.
-        for (int wait = MOST_SLACK; wait >= 0; wait--) {
+        for (int wait = Math.min(MOST_SLACK, most); wait >= 0; wait--) {
             if (isLetBeAfter(wait, sorrow)) {
                 return wait;
             }
@@ -437,20 +438,20 @@ public final class BeanTrug {
         if (!scene.told.given || what < 0 || what > 1) {
             return NONE;
         }
-        int many = tracePaths();
+        int many = 0;
+        for (int rule = NONE; rule < ruleCount; rule++) {
+            startFromBegin(rule);
+            if (allNotesAreSo()) {
+                startFromBegin(rule);
+                tracePath(many);
+                many++;
+            }
+        }
         if (many == 0) {
             return NOTHING;
         }
-        int best = 0;
-        int fewest = many + 1;
-        for (int n = 0; n < NOTED_STEPS; n++) {
-            int alike = mostAlike(many, n);
-            if (alike < fewest) {
-                fewest = alike;
-                best = n;
-            }
-        }
-        return what == 0 ? best : fewest;
+        int best = bestStepToLook(many);
+        return what == 0 ? best : mostAlike(many, best);
     }
 
     // ---- draws ----
@@ -564,11 +565,9 @@ public final class BeanTrug {
     private boolean isLetBeAfter(int wait, int sorrow) {
         startNow();
         walk.state.pass(wait);
-        for (int i = 0; i < MOST_AHEAD; i++) {
-            // The minute never falls, so beyond this point all steps are in vain.
-            if (walk.state.minute + walk.state.time[sorrow] > scene.told.dusk) {
-                return false;
-            }
+        // The minute never falls, so once it is too late all further steps are in vain.
+        int latest = scene.told.dusk - walk.state.time[sorrow];
+        for (int i = 0; i < MOST_AHEAD && walk.state.minute <= latest && !walk.still; i++) {
             if (walk.goOn() == sorrow) {
                 return walk.state.isLetBe(sorrow);
             }
@@ -603,26 +602,33 @@ public final class BeanTrug {
         return true;
     }
 
-    private int tracePaths() {
-        int many = 0;
-        for (int rule = NONE; rule < ruleCount; rule++) {
-            startFromBegin(rule);
-            if (allNotesAreSo() && many <= RULES) {
-                startFromBegin(rule);
-                for (int n = 0; n < NOTED_STEPS; n++) {
-                    paths[many * NOTED_STEPS + n] = walk.goOn();
-                }
-                many++;
+    private void tracePath(int which) {
+        if (which < 0 || which > RULES) {
+            return;
+        }
+        for (int n = 0; n < NOTED_STEPS; n++) {
+            paths[which * NOTED_STEPS + n] = walk.goOn();
+        }
+    }
+
+    private int bestStepToLook(int many) {
+        int best = 0;
+        int fewest = many + 1;
+        for (int n = 0; n < NOTED_STEPS; n++) {
+            int alike = mostAlike(many, n);
+            if (alike < fewest) {
+                fewest = alike;
+                best = n;
             }
         }
-        return many;
+        return best;
     }
 
     private int mostAlike(int many, int n) {
         int most = 0;
-        for (int i = 0; i < many; i++) {
+        for (int i = 0; i < many && i <= RULES; i++) {
             int alike = 0;
-            for (int j = 0; j < many; j++) {
+            for (int j = 0; j < many && j <= RULES; j++) {
                 if (paths[i * NOTED_STEPS + n] == paths[j * NOTED_STEPS + n]) {
                     alike++;
                 }
@@ -705,8 +711,8 @@ public final class BeanTrug {
             for (int i = 0; i <= ROOM && place <= length; i++) {
                 place = cutPiece(place);
             }
-            at = 0;
-            lookHere();
+            at = NONE;
+            goOn();
         }
 
         private int cutPiece(int from) {
@@ -783,17 +789,12 @@ public final class BeanTrug {
             return true;
         }
 
-        private void lookHere() {
-            boolean any = at >= 0 && at < pieces && at <= ROOM;
-            kind = any ? kinds[at] : END;
-            value = any ? values[at] : 0;
-        }
-
         void goOn() {
-            if (at + 1 < pieces) {
+            if (at + 1 >= 0 && at + 1 < pieces && at < ROOM) {
                 at++;
+                kind = kinds[at];
+                value = values[at];
             }
-            lookHere();
         }
 
         boolean isWell() {
@@ -958,7 +959,7 @@ public final class BeanTrug {
         /** Answers the fault, or 0. */
         int readAll(Rule into) {
             rule = into;
-            rule.length = 0;
+            rule.clear();
             clauses = 0;
             pieces = 0;
             tape.rewind();
@@ -1047,7 +1048,10 @@ public final class BeanTrug {
                 tape.fail(0);
                 return;
             }
-            countPiece();
+            if (pieces >= MOST_PIECES) {
+                tape.fail(3);
+            }
+            pieces++;
             tape.goOn();
             readSum();
             rule.add(code);
@@ -1071,13 +1075,6 @@ public final class BeanTrug {
                 default:
                     return NONE;
             }
-        }
-
-        private void countPiece() {
-            if (pieces >= MOST_PIECES) {
-                tape.fail(3);
-            }
-            pieces++;
         }
 
         private void readSum() {
@@ -1117,7 +1114,10 @@ public final class BeanTrug {
             if (isNumber && tape.value == Tape.TOO_LONG) {
                 tape.fail(1);
             }
-            countPiece();
+            if (pieces >= MOST_PIECES) {
+                tape.fail(3);
+            }
+            pieces++;
             rule.add(isNumber ? Rule.NUMBER + tape.value : tape.value);
             tape.goOn();
         }
@@ -1159,7 +1159,8 @@ public final class BeanTrug {
 
         private final int[] code;
         private final long[] stack;
-        int length;
+        private int length;
+        boolean asksTheHour;
 
         Rule() {
             // Every piece of code comes from a byte of its own at least.
@@ -1167,10 +1168,18 @@ public final class BeanTrug {
             stack = new long[STACK];
         }
 
+        void clear() {
+            length = 0;
+            asksTheHour = false;
+        }
+
         void add(int piece) {
             if (length >= 0 && length < code.length) {
                 code[length] = piece;
                 length++;
+            }
+            if (piece == LEFT || piece == MINUTE || piece == STEP) {
+                asksTheHour = true;
             }
         }
 
@@ -1374,7 +1383,7 @@ public final class BeanTrug {
         int load(int earth) {
             int all = earth;
             for (int i = 0; i < SORROWS; i++) {
-                if (isIn(i)) {
+                if ((in >> i & 1) != 0) {
                     all += weight[i];
                 }
             }
@@ -1384,7 +1393,7 @@ public final class BeanTrug {
         int overOf(int sorrow) {
             int many = 0;
             for (int i = 0; i < SORROWS; i++) {
-                if (isIn(i) && (under[i] >> sorrow & 1) != 0) {
+                if ((in >> i & 1) != 0 && (under[i] >> sorrow & 1) != 0) {
                     many++;
                 }
             }
@@ -1500,6 +1509,8 @@ public final class BeanTrug {
     /** A going on by steps, aside from how it stands. */
     private static final class Walk {
         final State state;
+        // Nothing is lifted any more, however long it goes on.
+        boolean still;
         private final long[] words;
         private Told told;
         private Rule rule;
@@ -1513,25 +1524,40 @@ public final class BeanTrug {
         void start(Told of, State from, Rule by) {
             told = of;
             rule = by;
+            still = false;
             state.copyFrom(from);
         }
 
         void startAnew(Told of, Rule by) {
             told = of;
             rule = by;
+            still = false;
             state.begin(of);
         }
 
         /** One step: what is lifted, or NONE. */
         int goOn() {
-            int loose = state.looseBits();
-            int chosen = loose == 0 ? NONE : rule == null ? leastOf(loose) : chosenOf(loose);
+            int chosen = still ? NONE : chosenNow();
             if (chosen == NONE) {
                 state.pass(1);
             } else {
                 state.lift(chosen, told.dusk);
             }
             state.step++;
+            return chosen;
+        }
+
+        private int chosenNow() {
+            int loose = state.looseBits();
+            if (loose == 0) {
+                still = true;
+                return NONE;
+            }
+            if (rule == null) {
+                return leastOf(loose);
+            }
+            int chosen = chosenOf(loose);
+            still = chosen == NONE && !rule.asksTheHour;
             return chosen;
         }
 
