@@ -1791,22 +1791,16 @@ public final class BeanTrug {
             return rings;
         }
 
+        // Upwards, so that of several sets the least is met first.
         int fewestForNoRings(State state) {
             int fewest = state.in;
             for (int set = 0; set < SETS; set++) {
-                boolean fits = (set & ~state.in) == 0
-                        && isBetter(set, fewest);
+                boolean fits = (set & ~state.in) == 0 && Integer.bitCount(set) < Integer.bitCount(fewest);
                 if (fits && ringsAmong(state.in & ~set, state.under) == 0) {
                     fewest = set;
                 }
             }
             return fewest;
-        }
-
-        static boolean isBetter(int set, int other) {
-            int many = Integer.bitCount(set);
-            int others = Integer.bitCount(other);
-            return many < others || (many == others && set < other);
         }
 
         /** For each set that is in: how much more the one whose turn it is gets. */
@@ -1917,7 +1911,7 @@ public final class BeanTrug {
             return false;
         }
 
-        /** The fewest carriers for a load, as bits, or NONE. */
+        /** The fewest carriers for a load, as bits, or NONE; upwards, so that the least comes first. */
         int fewestFor(int load, Told told) {
             int fewest = NONE;
             for (int set = 0; set < 1 << told.carriers; set++) {
@@ -1927,7 +1921,8 @@ public final class BeanTrug {
                         strong += told.strong[c];
                     }
                 }
-                if (strong >= load && (fewest == NONE || Sets.isBetter(set, fewest))) {
+                boolean fewer = fewest == NONE || Integer.bitCount(set) < Integer.bitCount(fewest);
+                if (strong >= load && fewer) {
                     fewest = set;
                 }
             }

@@ -35,6 +35,7 @@ public final class FaultTest {
         reads("trug 300 20", 0);
         reads("  trug  300   20  ", 0);
         reads("trug1 0;sorrow1 1 0", 1);
+        reads("trug 1 0".concat(" ".repeat(392)), 0);
         reads("trug 00300 00020 ; sorrow 20 40 30 ; sorrow 1 1 0", 2);
         reads("trug 1 0;sorrow 1 1 0;sorrow 1 1 0;under 0 1;under 0 1;under 1 0", 2);
         reads("trug 1 0;carrier 1;carrier 60;carrier 1;carrier 1", 0);
@@ -56,6 +57,12 @@ public final class FaultTest {
         trugFault("trug 1 0;;", 9, 0);
         trugFault("trugs 1 0", 0, 0);
         trugFault("tru 1 0", 0, 0);
+        trugFault("trugz 1 0", 0, 0);
+        trugFault("trug{1 0", 4, 0);
+        trugFault("trug`1 0", 4, 0);
+        trugFault("trug 1/0", 6, 0);
+        trugFault("trug 1:0", 6, 0);
+        trugFault("<".repeat(400), 0, 0);
         trugFault("Trug 1 0", 0, 0);
         trugFault("trug x", 5, 0);
         trugFault("trug -1 0", 5, 0);
@@ -136,6 +143,8 @@ public final class FaultTest {
         ruleFault("lift if", 5, 0);
         ruleFault("lift trug", 5, 0);
         ruleFault("lift 5 %", 8, 0);
+        ruleFault("lift 5".concat(" ".repeat(393)).concat("+"), 400, 0);
+        ruleFault("lift 5".concat(";".repeat(394)), 7, 0);
         ruleFault("lift 5 5", 7, 0);
         ruleFault("lift 5 123456", 7, 0);
         ruleFault("lift 5 time", 7, 0);

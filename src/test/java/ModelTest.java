@@ -146,12 +146,14 @@ public final class ModelTest {
                     .append(between(1, mostTime)).append(gap()).append(between(0, mostDeep));
         }
         boolean rings = random.nextInt(3) == 0;
+        boolean turned = random.nextBoolean();
         int unders = sorrows < 2 ? 0 : random.nextInt(rings ? 14 : 8);
         for (int i = 0; i < unders; i++) {
             int a = random.nextInt(sorrows);
             int b = random.nextInt(sorrows);
             if (a != b) {
-                s.append(";under ").append(rings ? a : Math.max(a, b)).append(gap()).append(rings ? b : Math.min(a, b));
+                boolean swap = !rings && (a < b) != turned;
+                s.append(";under ").append(swap ? b : a).append(gap()).append(swap ? a : b);
             }
         }
         int carriers = random.nextInt(5);

@@ -403,6 +403,13 @@ public final class PromiseTest {
         t.due("17: none", x.dusk(0), 0);
         t.due("17: none", x.dusk(1), 0);
         t.due("17: none", x.dusk(2), -2);
+        x = Trial.with("trug 300 0;sorrow 1 1 4");
+        Trial.tellRule(x, "lift 1 if step = 99");
+        Trial.tellRule(x, "lift 1 if step = 100");
+        x.force(0);
+        t.due("17: the 100th step", x.dusk(1), 4);
+        x.force(1);
+        t.due("17: beyond the 100th step", x.dusk(1), 0);
     }
 
     private static void order() {
@@ -435,6 +442,9 @@ public final class PromiseTest {
         t.due("18: the first", x.order(0), 1);
         t.due("18: the first", x.order(1), 2);
         t.due("18: nothing for nought", x.order(2), -2);
+        x = Trial.with("trug 10 0;sorrow 1 1 9;sorrow 1 1 0;under 0 1");
+        t.due("18: what lies over it first", x.order(0), 1);
+        t.due("18: what lies over it first", x.order(1), 0);
     }
 
     private static void chain() {
@@ -488,7 +498,9 @@ public final class PromiseTest {
         t.due("22: of 2", x.slack(2), 1);
         t.due("22: none such", x.slack(3), -1);
         t.due("22: below", x.slack(-1), -1);
-        x.await(2);
+        x.await(1);
+        t.due("22: just 0", x.slack(2), 0);
+        x.await(1);
         t.due("22: not even 0", x.slack(2), -2);
         x.take(0);
         t.due("22: not in", x.slack(0), -1);
@@ -528,6 +540,11 @@ public final class PromiseTest {
         x = Trial.with("trug 9 9;sorrow 1 1 1");
         t.due("23: no carriers", x.carry(-1), 0);
         t.due("23: no carriers", x.carry(0), -1);
+        x = Trial.with("trug 9 9" + ";sorrow 20 1 1".repeat(8) + ";carrier 60;carrier 60;carrier 40;carrier 1");
+        t.due("23: all eight", x.carry(-1), 160);
+        t.due("23: the third", x.carry(2), 0);
+        t.due("23: the fourth", x.carry(3), 1);
+        t.due("23: the last", x.carry(7), 2);
     }
 
     private static void pole() {
