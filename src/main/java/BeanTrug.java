@@ -86,6 +86,7 @@ public final class BeanTrug {
     public int trug() {
         // A text with a fault must leave the old trug whole, so it is read aside.
         int fault = trugReader.readAll();
+        tape.length = 0;
         if (fault != 0) {
             return NOTHING - fault;
         }
@@ -93,7 +94,6 @@ public final class BeanTrug {
         scene.state.begin(scene.told);
         scene.noteCount = 0;
         past.forget();
-        tape.length = 0;
         return scene.told.sorrows;
     }
 
@@ -102,10 +102,10 @@ public final class BeanTrug {
             return NONE;
         }
         int fault = ruleReader.readAll(rules[ruleCount]);
+        tape.length = 0;
         if (fault != 0) {
             return NOTHING - fault;
         }
-        tape.length = 0;
         ruleCount++;
         return ruleCount - 1;
     }
@@ -384,14 +384,11 @@ public final class BeanTrug {
     // ---- what notes tell ----
 
     public int note(int n, int sorrow) {
-        if (!scene.told.given) {
-            return NOTHING;
-        }
         if (n == NONE) {
             scene.noteCount = 0;
             return 0;
         }
-        if (n < 0 || n >= NOTED_STEPS || scene.noteCount >= NOTES) {
+        if (!scene.told.given || n < 0 || n >= NOTED_STEPS || scene.noteCount >= NOTES) {
             return NOTHING;
         }
         if (sorrow != NONE && !scene.told.hasSorrow(sorrow)) {

@@ -470,11 +470,12 @@ final class Model {
             told = new Text().trug();
         } catch (Fault f) {
             return -2 - f.number;
+        } finally {
+            tape = new byte[0];
         }
         now = told.copy();
         notes = new ArrayList<>();
         past.clear();
-        tape = new byte[0];
         return now.sorrows.size();
     }
 
@@ -486,8 +487,9 @@ final class Model {
             rules.add(new Text().rule());
         } catch (Fault f) {
             return -2 - f.number;
+        } finally {
+            tape = new byte[0];
         }
-        tape = new byte[0];
         return rules.size() - 1;
     }
 
@@ -897,14 +899,11 @@ final class Model {
     }
 
     int note(int n, int sorrow) {
-        if (told == null) {
-            return -2;
-        }
         if (n == -1) {
             notes = new ArrayList<>();
             return 0;
         }
-        if (n < 0 || n > 60 || notes.size() == 10 || sorrow != -1 && !has(sorrow)) {
+        if (told == null || n < 0 || n > 60 || notes.size() == 10 || sorrow != -1 && !has(sorrow)) {
             return -2;
         }
         notes.add(new Note(n, sorrow));

@@ -72,7 +72,8 @@ public final class PromiseTest {
         t.due("27: no trug", x.game(0), -1000);
         t.due("28: no trug", x.pence(1, 0), -1);
         t.due("29: no trug", x.note(0, -1), -2);
-        t.due("29: no trug, n NONE", x.note(-1, 0), -2);
+        t.due("29: no trug, n NONE", x.note(-1, 0), 0);
+        t.due("29: no trug, n NONE, no sorrow", x.note(-1, -9), 0);
         t.due("30: no trug", x.ruled(0), -3);
         t.due("31: no trug", x.look(0), -1);
         t.due("33: no trug", x.years(1, 0), -1);
@@ -122,7 +123,8 @@ public final class PromiseTest {
         x.note(0, 0);
         x.step();
         t.due("4: a fault", Trial.tellTrug(x, "trug 5 5;"), Trial.fault(9, 0));
-        t.due("4: all stays: tape", x.count(15), 9);
+        t.due("4: the tape is empty with a fault too", x.count(15), 0);
+        t.due("4: nothing is left to be read", x.trug(), Trial.fault(0, 0));
         t.due("4: all stays: trug", x.count(0), 20);
         t.due("4: all stays: minute", x.count(6), 6);
         t.due("4: all stays: notes", x.count(12), 1);
@@ -146,12 +148,15 @@ public final class PromiseTest {
         t.due("5: tape is empty", x.count(15), 0);
         t.due("5: a fault", Trial.tellRule(x, "lift"), Trial.fault(4, 0));
         t.due("5: none came", x.count(4), 1);
+        t.due("5: the tape is empty with a fault too", x.count(15), 0);
+        t.due("5: nothing is left to be read", x.rule(), Trial.fault(0, 0));
         for (int i = 1; i < 6; i++) {
             t.due("5: rule " + i, Trial.tellRule(x, "lift " + i), i);
         }
         t.due("5: there are 6", Trial.tellRule(x, "lift 1"), -1);
         t.due("5: nothing happens", x.count(15), 6);
         t.due("5: there are 6, and a fault", Trial.tellRule(x, "lift"), -1);
+        t.due("5: nothing happens, with a fault too", x.count(15), 4);
         t.due("34: rules", x.count(4), 6);
     }
 
