@@ -242,9 +242,11 @@ public final class BeanTrug {
             return NONE;
         }
         startNow();
-        for (int i = 1; i <= MOST_AHEAD; i++) {
+        for (int i = 0; i < MOST_AHEAD; i++) {
+            // The number of the step that is made here, not of the one behind it.
+            int step = walk.state.step;
             if (walk.goOn() == sorrow) {
-                return what == 0 ? i : walk.state.minute;
+                return what == 0 ? step : walk.state.minute;
             }
         }
         return NOTHING;

@@ -588,10 +588,10 @@ final class Model {
             return -1;
         }
         World w = now.copy();
-        for (int i = 1; i <= 100; i++) {
+        for (int n = now.step; n < now.step + 100; n++) {
             goOn(w, force);
             if (!w.in(sorrow)) {
-                return what == 0 ? i : w.minute;
+                return what == 0 ? n : w.minute;
             }
         }
         return -2;

@@ -370,24 +370,50 @@ public final class PromiseTest {
 
     private static void when() {
         BeanTrug x = Trial.with(BASE);
-        t.due("16: this one the first", x.when(0, 0), 1);
+        t.due("16: this one the first, STEP 0", x.when(0, 0), 0);
         t.due("16: minute", x.when(0, 1), 6);
-        t.due("16: third", x.when(2, 0), 3);
+        t.due("16: third, STEP 2", x.when(2, 0), 2);
         t.due("16: minute", x.when(2, 1), 19);
         t.due("16: what 2", x.when(2, 2), -1);
         t.due("16: what -1", x.when(2, -1), -1);
         t.due("16: none such", x.when(3, 0), -1);
         x.step();
         t.due("16: not in", x.when(0, 0), -1);
-        t.due("16: this one the first", x.when(1, 0), 1);
+        t.due("16: it is STEP 1", x.when(1, 0), 1);
+        t.due("16: the same STEP as ahead of it", x.when(2, 0), 2);
         Trial.tellRule(x, "lift 1 if minute = 105");
         Trial.tellRule(x, "lift 1 if minute = 106");
         x.force(0);
-        t.due("16: in the 100th", x.when(1, 0), 100);
+        t.due("16: in the 100th from STEP 1 on", x.when(1, 0), 100);
         t.due("16: in the 100th, the minute", x.when(1, 1), 114);
         x.force(1);
         t.due("16: in none", x.when(1, 0), -2);
         t.due("16: in none, the minute", x.when(1, 1), -2);
+        whenIsTheStep();
+    }
+
+    // What WHEN answers is the number that a RULE, a NOTE and count(7) tell the same STEP by.
+    private static void whenIsTheStep() {
+        BeanTrug x = Trial.with(BASE);
+        Trial.tellRule(x, "lift 1 if step = 4 and sorrow = 2; lift 1 if step = 6");
+        x.force(0);
+        t.due("16: as the RULE says", x.when(2, 0), 4);
+        t.due("16: as the RULE says", x.when(0, 0), 6);
+        t.due("16: never", x.when(1, 0), -2);
+        x.note(4, 2);
+        x.note(6, 0);
+        t.due("16: as NOTES say", x.ruled(1), 0);
+        x.take(1);
+        x.await(3);
+        t.due("16: acts that are no STEP do not count", x.when(2, 0), 4);
+        for (int i = 0; i < 4; i++) {
+            t.due("16: none yet", x.step(), -2);
+        }
+        t.due("16: this STEP", x.when(2, 0), x.count(7));
+        t.due("16: lifted in it", x.step(), 2);
+        t.due("16: in two STEPS", x.when(0, 0), 6);
+        x.undo();
+        t.due("16: this STEP again", x.when(2, 0), 4);
     }
 
     private static void dusk() {
