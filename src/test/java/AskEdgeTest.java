@@ -299,6 +299,12 @@ public final class AskEdgeTest {
         isRow("none of eight", in(8, "trug 8 0" + EIGHT), 0, 0);
         isRow("those that are in", afterTake("trug 8 0" + EIGHT, 0, 3), 6, 6, 1, 2, 4, 5, 6, 7);
         isRow("all are lifted", afterTake(ONE, 0), 0, 0);
+        BeanTrug x = Trial.with("trug 8 0;sorrow 1 4 5;sorrow 1 4 5");
+        isRow("two", x, 10, 8, 0, 1);
+        x.await(4);
+        isRow("one", x, 5, 4, 0);
+        x.await(1);
+        isRow("none any more", x, 0, 0);
     }
 
     private static void eachLooseNoneLate() {
@@ -347,6 +353,8 @@ public final class AskEdgeTest {
         isChain("0, 1 under it, 2 under that", Trial.with(times + ";under 1 0;under 2 1"), 16, 0);
         isChain("2, 1 under it, 0 under that", Trial.with(times + ";under 0 1;under 1 2"), 16, 2);
         isChain("both under 0, but not under one another", Trial.with(times + ";under 1 0;under 2 0"), 11, 0);
+        isChain("the longer one under 0 comes first", Trial.with("trug 9 0;sorrow 1 4 1;sorrow 1 9 1;sorrow 1 1 1"
+                + ";under 1 0;under 2 0"), 13, 0);
         isChain("a ring, none twice", Trial.with(times + ";under 1 0;under 2 1;under 0 2"), 16, 0);
         StringBuilder ring = new StringBuilder("trug 9 0" + ";sorrow 1 40 1".repeat(8));
         for (int i = 0; i < 8; i++) {
@@ -362,6 +370,10 @@ public final class AskEdgeTest {
         isChain("a ring can begin with each", Trial.with(four + ";under 2 3;under 3 2"), 6, 2);
         isChain("not the least of the chain", Trial.with(four + ";under 0 1"), 6, 1);
         isChain("the most time ahead of the least", Trial.with("trug 9 0;sorrow 1 3 1;sorrow 1 4 1"), 4, 1);
+        String three = "trug 9 0;sorrow 1 4 1;sorrow 1 9 1;sorrow 1 ";
+        isChain("two of less time", Trial.with(three + "4 1;under 2 0"), 9, 1);
+        isChain("two of as much time", Trial.with(three + "5 1;under 2 0"), 9, 0);
+        isChain("two of more time", Trial.with(three + "6 1;under 0 2"), 10, 2);
     }
 
     private static void rings() {
@@ -450,6 +462,8 @@ public final class AskEdgeTest {
         isBorne("the first in all", Trial.with("trug 9 0;sorrow 5 1 1;sorrow 5 1 1;carrier 5;carrier 5"), 10, 0, 1);
         isBorne("the last for the last", Trial.with("trug 9 0;sorrow 5 1 1;sorrow 5 1 1;carrier 5;carrier 5;carrier 10"),
                 10, 0, 1);
+        isBorne("the second, so that the first has room", Trial.with("trug 9 0;sorrow 4 1 1;sorrow 6 1 1;carrier 6"
+                + ";carrier 4"), 10, 1, 0);
         isBorne("three of which two", Trial.with("trug 9 0;sorrow 5 1 1;sorrow 5 1 1;sorrow 5 1 1;carrier 10"), 10, -1, 0, 0);
     }
 
@@ -699,6 +713,12 @@ public final class AskEdgeTest {
         Trial.tellTrug(x, "trug 9 0");
         x.note(60, -1);
         s.due("in an empty trug all are so", x.ruled(0), 7);
+        BeanTrug y = ruledBy("trug 9 0;sorrow 1 1 4;sorrow 1 1 1", "lift 1 if rest = 0");
+        y.note(0, 0);
+        y.note(1, -1);
+        y.step();
+        s.due("none is let be at the begin", y.ruled(1), 0);
+        s.due("none is let be at the begin", y.took(0, 0), 9);
     }
 
     private static void look() {
@@ -724,8 +744,24 @@ public final class AskEdgeTest {
         // STEP 0: all 0. STEP 1: none 1, first 1, second 2 (worth 2 above 1), third 1.
         s.due("where they part", y.look(0), 1);
         s.due("the most alike", y.look(1), 3);
+        lookAtSeven();
         s.due("without a rule and a note", Trial.with(ONE).look(0), 0);
         s.due("without a rule and a note", Trial.with(ONE).look(1), 1);
+    }
+
+    private static void lookAtSeven() {
+        String eight = "trug 300 0" + ";sorrow 1 1 1".repeat(8);
+        BeanTrug x = ruledBy(eight, "lift 1 if sorrow = 1 or step > 0", "lift 1 if sorrow = 2 or step > 0",
+                "lift 1 if sorrow = 3 or step > 0", "lift 1 if sorrow = 4 or step > 0", "lift 1 if sorrow = 5 or step > 0",
+                "lift 1 if sorrow = 6 or step > 0");
+        s.due("all seven part at once", x.look(0), 0);
+        s.due("none is like another", x.look(1), 1);
+        BeanTrug y = ruledBy(eight, "lift 1", "lift 1", "lift 1", "lift 1", "lift 1", "lift 1 if step < 7");
+        s.due("the last parts from the others", y.look(0), 7);
+        s.due("six are alike", y.look(1), 6);
+        BeanTrug z = ruledBy(eight, "lift 1", "lift 1", "lift 1", "lift 1", "lift 1", "lift 9 - sorrow");
+        s.due("all seven are alike", z.look(0), 0);
+        s.due("all seven are alike", z.look(1), 7);
     }
 
     // ---- draws ----
@@ -767,6 +803,14 @@ public final class AskEdgeTest {
         s.due("of 2147483646", firstDrawn(2147483646), 3);
         // 1218823938 / 65536 is 18597, of 8 the rest 5.
         s.due("of 77", firstDrawn(77), 5);
+        s.due("x becomes 0", firstDrawn(2088216195), 0);
+        s.due("x becomes 65535", firstDrawn(2032319262), 0);
+        s.due("x becomes 65536", firstDrawn(1742513795), 1);
+        s.due("x becomes 524287, DRAW 7", firstDrawn(1759886110), 7);
+        s.due("x becomes 524288, DRAW 8", firstDrawn(1470080643), 0);
+        s.due("x becomes 2147418111, DRAW 32766", firstDrawn(576240414), 6);
+        s.due("x becomes 2147418112, DRAW 32767", firstDrawn(286434947), 7);
+        s.due("x becomes 2147483647, DRAW 32767", firstDrawn(230538014), 7);
     }
 
     private static void years() {
@@ -783,6 +827,8 @@ public final class AskEdgeTest {
         x.seed(2147483647);
         // The ninth DRAW: 8032, of 8 the rest 0.
         s.due("2 from the greatest x on", x.years(2, 0), 3);
+        // Two DRAWS a year, the first of each: 0, 9988, 3498, 16045: the fourth is odd.
+        s.due("4 of two sorrows", Trial.with("trug 1 0;sorrow 1 1 1;sorrow 1 1 10").years(4, 0), 13);
         BeanTrug empty = Trial.with("trug 9 0");
         empty.await(5);
         s.due("an empty trug", empty.years(20, 1), 100);
@@ -838,8 +884,20 @@ public final class AskEdgeTest {
             s.due("count(" + what + ")", x.count(what), due[what]);
         }
         s.due("its weight", x.sorrow(2, 0), 7);
-        s.due("its notes", x.took(3, 0), Lived.one().took(3, 0));
         s.due("its carriers", x.carrier(1), 4);
+        BeanTrug y = ruledBy("trug 9 0;sorrow 1 1 1;sorrow 1 1 2", "lift deep", "lift 0");
+        y.note(0, 1);
+        y.image(0);
+        y.note(-1, 0);
+        y.note(1, -1);
+        s.due("other notes", y.ruled(1), 1);
+        y.back(0);
+        s.due("its notes", y.ruled(1), 0);
+        y.note(-1, 0);
+        y.note(0, -1);
+        s.due("another sorrow noted", y.ruled(1), 1);
+        y.back(0);
+        s.due("its notes", y.ruled(1), 0);
     }
 
     private static void goneBackTo() {

@@ -30,6 +30,7 @@ public final class PromiseEdgeTest {
     }
 
     private static void telling() {
+        s.test("An object is used for at most 512 calls after it has been made", PromiseEdgeTest::allCalls);
         s.test("No TRUG, no RULES, none IN FORCE.", PromiseEdgeTest::newObject);
         s.test("Twenty bytes come behind the TAPE, of each number the highest first: how many it has", PromiseEdgeTest::feed);
         s.test("NONE, and none comes, if it would have more than 400.", PromiseEdgeTest::feedTooMany);
@@ -143,6 +144,19 @@ public final class PromiseEdgeTest {
 
     // ---- telling ----
 
+    // What an object keeps does not run full before its last call.
+    private static void allCalls() {
+        BeanTrug x = new BeanTrug();
+        x.feed(0x74727567, 0x20333030, 0x20313b73, 0x6f72726f, 0x77203120);
+        x.feed(0x3120393b, 0x63617272, 0x69657220, 0x31202020, 0x20202020);
+        s.due("the third call", x.trug(), 1);
+        for (int call = 4; call < 512; call++) {
+            int step = call - 4;
+            s.due("call " + call, x.step(), step == 0 ? 0 : -2);
+        }
+        s.due("the last call", x.count(7), 508);
+    }
+
     private static void newObject() {
         BeanTrug x = new BeanTrug();
         for (int what = 0; what <= 15; what++) {
@@ -236,6 +250,25 @@ public final class PromiseEdgeTest {
         s.due("it is in", x.sorrow(0, 3), 0);
         s.due("it is not lifted", x.sorrow(0, 4), -1);
         s.due("room for 400 again", fedFull(x), 400);
+        inPlaceOfTheOther("trug 9 0;sorrow 2 1 9;sorrow 2 1 9;under 1 0;carrier 9;carrier 9;carrier 9;carrier 9");
+        inPlaceOfTheOther("trug 9 0;sorrow 2 1 9;sorrow 2 1 9;under 0 1;under 1 0;carrier 9;x");
+    }
+
+    /** Nothing is left of a text that was read before, with a fault or without. */
+    private static void inPlaceOfTheOther(String other) {
+        BeanTrug x = new BeanTrug();
+        Trial.tellTrug(x, other);
+        x.take(0);
+        x.take(1);
+        Trial.tellTrug(x, "trug 9 0;sorrow 1 1 1;sorrow 1 1 1");
+        s.due("all are in", x.count(8), 3);
+        s.due("none lies under another", x.count(9), 3);
+        s.due("none is let be", x.count(10), 0);
+        s.due("none is let be", x.pence(9, 0), 0);
+        s.due("none is lifted", x.sorrow(1, 4), -1);
+        s.due("none carries", x.carry(-1), 0);
+        s.due("none carries", x.carry(0), -1);
+        s.due("none is strong", x.pole(0), -2);
     }
 
     private static int fedFull(BeanTrug x) {
@@ -324,6 +357,11 @@ public final class PromiseEdgeTest {
         }
         s.due("a fault takes no number", Trial.tellRule(x, "lift"), -2 - (1 + 8 * 4));
         s.due("the last", Trial.tellRule(x, "lift 1"), 5);
+        BeanTrug y = Trial.with(THREE);
+        s.due("a fault behind a whole clause", Trial.tellRule(y, "lift 0;lift"), -2 - (1 + 8 * 11));
+        s.due("the first", Trial.tellRule(y, "lift 1 if sorrow = 2"), 0);
+        y.force(0);
+        s.due("nothing is left of the text with the fault", y.step(), 2);
     }
 
     private static void force() {

@@ -12,6 +12,7 @@ import java.util.function.ToIntFunction;
 final class Sentences {
     private static final Path DOC = Path.of("../shared/DOC.md");
 
+    private final String name;
     private final Trial trial;
     private final String document;
     private final Set<String> told = new HashSet<>();
@@ -19,6 +20,7 @@ final class Sentences {
     private int answers = 0;
 
     Sentences(String name) throws IOException {
+        this.name = name;
         trial = new Trial(name);
         document = Files.exists(DOC) ? Files.readString(DOC) : null;
         if (document == null) {
@@ -37,7 +39,7 @@ final class Sentences {
     }
 
     void close() {
-        System.out.println(told.size() + " sentences");
+        System.out.println(name + ": " + told.size() + " sentences");
         trial.close();
     }
 

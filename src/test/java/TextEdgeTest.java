@@ -97,6 +97,10 @@ public final class TextEdgeTest {
         s.due("the last byte is read", x.count(1), 20);
         s.trugFault("trug 300" + " ".repeat(391) + "x", 399, 0);
         s.trugFault("trug 300" + " ".repeat(392), 400, 0);
+        // As many words, numbers and signs as bytes.
+        s.trugFault("<".repeat(400), 0, 0);
+        s.trugFault("trug1 0" + ";".repeat(393), 8, 0);
+        s.ruleFault("lift 1" + "+".repeat(394), 7, 0);
     }
 
     private static void fortyClauses() {
@@ -262,6 +266,9 @@ public final class TextEdgeTest {
         s.due("the twelfth counts", ruledBy(ONE, eleven + "lift 1").step(), 0);
         s.ruleFault(eleven + "lift 1;lift 1", eleven.length() + 7, 4);
         s.ruleFault("", 0, 0);
+        BeanTrug x = new BeanTrug();
+        s.due("twelve in one rule", Trial.tellRule(x, eleven + "lift 1"), 0);
+        s.due("and twelve in another", Trial.tellRule(x, eleven + "lift 1"), 1);
         String full = "lift 1" + " ".repeat(393) + "+";
         s.ruleFault(full, 400, 0);
         s.ruleReads("lift 1" + " ".repeat(392) + "+1");
@@ -310,6 +317,9 @@ public final class TextEdgeTest {
         s.ruleFault("lift 1 if 1=1]", 13, 0);
         s.ruleFault("lift 1 if not", 13, 0);
         s.ruleFault("lift 1 if 1", 11, 0);
+        s.ruleFault("lift 1 if 1 and 1=1", 12, 0);
+        s.ruleFault("lift 1 if 1 2=2", 12, 0);
+        s.ruleFault("lift 1 if 1;lift 1", 11, 0);
         s.ruleFault("lift 1 if (1=1)", 10, 0);
         s.ruleFault("lift [1]", 5, 0);
     }
@@ -322,6 +332,11 @@ public final class TextEdgeTest {
             holds("4" + signs[i] + "5", below[i]);
             holds("5" + signs[i] + "5", equal[i]);
             holds("6" + signs[i] + "5", below[signs.length - 1 - i]);
+            holds("not 4" + signs[i] + "5", !below[i]);
+            holds("not 5" + signs[i] + "5", !equal[i]);
+            holds("4" + signs[i] + "5 and 1=1", below[i]);
+            holds("5" + signs[i] + "5 and 1=1", equal[i]);
+            holds("6" + signs[i] + "5 and 1=1", below[signs.length - 1 - i]);
         }
         s.ruleFault("lift 1 if 1 < = 1", 14, 0);
         s.ruleFault("lift 1 if 1 =< 1", 13, 0);
@@ -365,6 +380,11 @@ public final class TextEdgeTest {
         s.reads("trug 00009 00000", 0);
         s.trugFault("trug 000009 0", 5, 1);
         s.trugFault("trug 9 000000", 7, 1);
+        s.trugFault("trug 1 0;sorrow 000001 1 1", 16, 1);
+        s.trugFault("trug 1 0;sorrow 1 000001 1", 18, 1);
+        s.trugFault("trug 1 0;sorrow 1 1 000001", 20, 1);
+        s.trugFault(TWO + ";under 000000 1", 41, 1);
+        s.trugFault(TWO + ";under 0 000001", 43, 1);
         s.trugFault("trug 1 0;carrier 000001", 17, 1);
         s.trugFault("trug 1" + "0".repeat(394), 5, 1);
         s.due("digits go on into a word", ruledBy(ONE, "lift1if1=1").step(), 0);
@@ -385,6 +405,9 @@ public final class TextEdgeTest {
         s.trugFault("trugs 1 0", 0, 0);
         s.trugFault("tru 1 0", 0, 0);
         s.trugFault("Trug 1 0", 0, 0);
+        s.trugFault("truga 1 0", 0, 0);
+        s.trugFault("trugz 1 0", 0, 0);
+        s.trugFault("ztrug 1 0", 0, 0);
         // The bytes on both sides of the small letters are none.
         s.trugFault("trug`1 0", 4, 0);
         s.trugFault("trug{1 0", 4, 0);
@@ -523,6 +546,7 @@ public final class TextEdgeTest {
         lifts(x, "over = 1", 0);
         x.lay(1, 0);
         lifts(x, "over = 0", 0);
+        lifts(Trial.with("trug 9 0;sorrow 1 1 1;sorrow 1 1 1;under 0 1"), "over = 1", 1);
         BeanTrug y = Trial.with("trug 9 0" + ";sorrow 1 1 1".repeat(8) + ";under1 0;under2 0;under3 0;under4 0;under5 0"
                 + ";under6 0;under7 0");
         lifts(y, "over = 7", 0);
@@ -557,6 +581,9 @@ public final class TextEdgeTest {
         }
         x.await(39);
         lifts(x, "left = 0-9998", 0);
+        BeanTrug y = ruledBy(ONE, "lift 1 if left = 0-1");
+        s.due("not yet in STEP 9", y.ahead(10, 3), 1);
+        s.due("in STEP 10", y.ahead(11, 3), 0);
     }
 
     private static void load() {
@@ -598,6 +625,12 @@ public final class TextEdgeTest {
         BeanTrug y = three();
         y.take(0);
         lifts(y, "minute = 6 and step = 0", 1);
+        BeanTrug later = ruledBy(ONE, "lift 1 if minute = 4");
+        s.due("not yet in minute 3", later.ahead(4, 3), 1);
+        s.due("in minute 4", later.ahead(5, 3), 0);
+        force(later, "lift 1 if step = 4");
+        s.due("not yet in STEP 3", later.ahead(4, 3), 1);
+        s.due("in STEP 4", later.ahead(5, 3), 0);
     }
 
     // ---- faults ----
@@ -644,7 +677,10 @@ public final class TextEdgeTest {
         s.ruleFault("trug 1 0", 0, 0);
         s.ruleFault("lift 1 1", 7, 0);
         s.ruleFault("lift 1 lift 1", 7, 0);
-        s.ruleFault("lift lift", 5, 0);
+        for (String word : new String[] {"trug", "under", "carrier", "lift", "if", "or", "and", "not"}) {
+            s.ruleFault("lift " + word, 5, 0);
+            s.ruleFault("lift 1 " + word + (word.equals("if") ? "" : " 1"), word.equals("if") ? 9 : 7, 0);
+        }
         s.ruleFault("lift 1 if under = 1", 10, 0);
         s.ruleFault("lift 1;;lift 1", 7, 0);
     }
