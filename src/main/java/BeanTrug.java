@@ -1661,7 +1661,7 @@ public final class BeanTrug {
             addUp(told.deep, deepSum);
             addUp(state.time, timeSum);
             findOpenSets(told, state);
-            findBestSums(state);
+            findBestSums();
             markGoodSets(state);
             layOutRow(state);
         }
@@ -1678,7 +1678,7 @@ public final class BeanTrug {
             }
         }
 
-        private void findBestSums(State state) {
+        private void findBestSums() {
             rowDeep = 0;
             rowTime = 0;
             for (int set = 1; set < SETS; set++) {
@@ -1804,8 +1804,7 @@ public final class BeanTrug {
 
         /** For each set that is in: how much more the one whose turn it is gets. */
         void findGame(Told told, State state) {
-            gameMore = 0;
-            gameFirst = NONE;
+            // The last set looked at is that of all that are in, so its answer stays.
             for (int set = 0; set < SETS; set++) {
                 if ((set & ~state.in) == 0) {
                     gameFirst = NONE;
@@ -1820,7 +1819,6 @@ public final class BeanTrug {
             }
         }
 
-        // The last set looked at is that of all that are in, so its answer stays.
         private void keepMove(int more, int sorrow) {
             if (gameFirst == NONE || more > gameMore) {
                 gameMore = more;
